@@ -1,7 +1,6 @@
 /** Long runs of calls, with right and wrong arguments mixed, against the model: all promises. */
 public final class RunsTest {
     private static final int MOST_CALLS = 512;
-    private static final int CALLS_TO_SEE_ALL = 24;
     private static final int[] WRONG = {-1, 3, 8, 9, -2, -8, 64, 255, 256, Integer.MAX_VALUE, Integer.MIN_VALUE};
 
     private static final Check CHECK = new Check();
@@ -49,15 +48,11 @@ public final class RunsTest {
                 calls++;
             }
         }
-        for (int call = 0; calls + 1 + CALLS_TO_SEE_ALL <= MOST_CALLS; call++) {
+        for (int call = 0; calls + 1 + Check.CALLS_OF_DUE_SLOTS <= MOST_CALLS; call++) {
             String at = run + ", call " + call + ": ";
             oneCall(at, x, model);
-            for (int s = 0; s < Model.SLOTS; s++) {
-                for (int a = 0; a < 8; a++) {
-                    CHECK.due(at + "then partner(" + s + ", " + a + ")", x.partner(s, a), model.partner(s, a));
-                }
-            }
-            calls += 1 + CALLS_TO_SEE_ALL;
+            CHECK.dueSlots(at + "that call", x, model);
+            calls += 1 + Check.CALLS_OF_DUE_SLOTS;
         }
     }
 
